@@ -546,19 +546,12 @@ public final class ClipMixer {
                 case SAW:
                     return 2 * amplitude * q / period - amplitude;
                 case NOISE:
-                    return noiseAt(index);
+                    int width = 2 * Math.max(0, amplitude) + 1;
+                    long x = (1103515245L * (index + 1) + 12345L * period) % 2147483648L;
+                    return (int) (x / 65536 % width) - amplitude;
                 default:
                     return amplitude;
             }
-        }
-
-        private int noiseAt(int index) {
-            int width = 2 * amplitude + 1;
-            if (width < 1) {
-                return 0;
-            }
-            long x = (1103515245L * (index + 1) + 12345L * period) % 2147483648L;
-            return (int) (x / 65536 % width) - amplitude;
         }
     }
 
@@ -1057,8 +1050,16 @@ public final class ClipMixer {
             if (first == NONE) {
                 return 0;
             }
-            int sum = clipSum(first, position);
-            return applied(applied(sum, tracks[track].gain), tracks[track].laneGain(position));
+            Clip a = clipRow[first];
+            int value = rawValue(a, position);
+            // Two clips that cover a position are neighbours in the row.
+            Clip b = first + 1 < clipCount ? clipRow[first + 1] : a;
+            int span = a.end() - b.start;
+            if (b != a && b.track == track && b.covers(position) && span > 0) {
+                int w = UNITY * (position - b.start) / span;
+                value = applied(value, UNITY - w) + applied(rawValue(b, position), w);
+            }
+            return applied(applied(value, tracks[track].gain), tracks[track].laneGain(position));
         }
 
         private int firstCovering(int track, int position) {
@@ -1068,22 +1069,6 @@ public final class ClipMixer {
                 }
             }
             return NONE;
-        }
-
-        // Two clips that cover a position are neighbours in the row.
-        private int clipSum(int first, int position) {
-            Clip a = clipRow[first];
-            int value = rawValue(a, position);
-            if (first + 1 >= clipCount) {
-                return value;
-            }
-            Clip b = clipRow[first + 1];
-            int span = a.end() - b.start;
-            if (b.track != a.track || !b.covers(position) || span < 1) {
-                return value;
-            }
-            int w = UNITY * (position - b.start) / span;
-            return applied(value, UNITY - w) + applied(rawValue(b, position), w);
         }
 
         // Only whether the level reaches the threshold matters, so the first such value ends the search.

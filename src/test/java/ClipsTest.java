@@ -106,6 +106,12 @@ public final class ClipsTest {
         Check.fails("a 13th clip out of range", x, ARGUMENT, () -> x.addClip(4, 0, 0, 0, 10, 1000));
         Check.fails("a 13th clip by a split", x, STATE, () -> x.splitClip(0, 5));
         Check.fails("a bad split", x, ARGUMENT, () -> x.splitClip(0, 0));
+        Check.same("nothing to delete on another track", x.deleteTime(0, 0, 4000), 0);
+        Check.same("the last of 12 has no neighbour", x.trackValue(3, 115), 0);
+        Check.same("the last of 12 moved", x.moveClip(11, 3000), 11);
+        Check.same("the last of 12 trimmed", x.trimClip(11, 1, 1), 8);
+        Check.same("the last of 12 removed", x.removeClip(11), 11);
+        Check.same("the last of 11 cut off", x.deleteTime(3, 100, 120), 1);
     }
 
     private static void setFades() {
@@ -182,6 +188,9 @@ public final class ClipsTest {
         x.addClip(3, 0, 0, 3990, 100, 1000);
         Check.fails("the offset 4000", x, ARGUMENT, () -> x.splitClip(3, 10));
         Check.same("the offset 3999", x.splitClip(3, 9), 4);
+        x.addClip(3, 0, 1000, 3990, 100, 1000);
+        Check.fails("the offset 4000, later", x, ARGUMENT, () -> x.splitClip(5, 1010));
+        Check.same("the offset 3999, later", x.splitClip(5, 1009), 6);
         Check.undoable("splitClip", x, () -> x.splitClip(0, 101));
         splitInCrossfade();
     }
@@ -210,8 +219,14 @@ public final class ClipsTest {
         Check.fails("clip -1", x, BOUNDS, () -> x.removeClip(-1));
         x.removeClip(0);
         Check.same("the last one removed", x.removeClip(0), 0);
-        x.addClip(0, 1, 0, 0, 10, 1000);
-        clipIs("a clip on a used place is a new one", x, 0, 0, 1, 0, 0, 10, 1000, 0, 0, 0);
+        Check.same("the first one again", x.addClip(0, 1, 0, 0, 10, 1000), 0);
+        for (int k = 0; k < 7; k++) {
+            x.setFades(0, 5, 5, 1);
+            x.removeClip(0);
+            Check.same("the next one", x.addClip(0, 1, 0, 0, 10, 1000), 0);
+            clipIs("a clip on a used place is a new one", x, 0, 0, 1, 0, 0, 10, 1000, 0, 0, 0);
+            x.seek(k);
+        }
     }
 
     private static void deleteTime() {
@@ -259,6 +274,11 @@ public final class ClipsTest {
         clipIs("untouched", x, 0, 0, 0, 0, 0, 20);
         x.addClip(2, 0, 100, 3990, 100, 1000);
         Check.fails("the offset 4000", x, ARGUMENT, () -> x.deleteTime(2, 50, 110));
+        ClipMixer y = new ClipMixer();
+        y.addClip(2, 0, 0, 3990, 100, 1000);
+        y.addClip(2, 0, 5, 0, 100, 1000);
+        Check.fails("the offset 4000 before a conflict", y, ARGUMENT, () -> y.deleteTime(2, 0, 10));
+        Check.fails("only a conflict", y, CONFLICT, () -> y.deleteTime(2, 0, 9));
         Check.same("the offset 3999", x.deleteTime(2, 50, 109), 0);
         clipIs("moved", x, 1, 2, 0, 50, 3999, 91);
         Check.same("an offset that is removed does not matter", x.deleteTime(2, 50, 141), 1);
@@ -317,6 +337,14 @@ public final class ClipsTest {
         Check.same("the raw value is without it", x.clipValue(0, 90), 1000);
         x.addClip(0, 1, 100, 0, 200, 1000);
         Check.same("the next crossfade", x.trackValue(0, 140), 500);
+        x.removeClip(2);
+        Check.same("a removed clip does not count", x.trackValue(0, 140), 500);
+        x.setFades(0, 0, 0, 0);
+        x.removeClip(1);
+        Check.same("nor does it fade its neighbour", x.trackValue(0, 90), 1000);
+        x.undo();
+        x.undo();
+        x.undo();
         Check.same("clips of other tracks do not count", x.addClip(1, 0, 85, 0, 10, 1000), 3);
         Check.same("the other track", x.trackValue(1, 90), 1000);
     }

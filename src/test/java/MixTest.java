@@ -51,6 +51,8 @@ public final class MixTest {
         Check.same("setMaster", x.setMaster(500), 1000);
         Check.same("setMaster again", x.setMaster(500), 500);
         Check.same("the mix is quieter", x.mix(0, true), 500);
+        Check.same("the gain 0", x.setMaster(0), 500);
+        Check.same("the mix is silent", x.mix(0, true), 0);
         Check.fails("gain -1", x, ARGUMENT, () -> x.setMaster(-1));
         Check.fails("gain 2001", x, ARGUMENT, () -> x.setMaster(2001));
         Check.undoable("setMaster", x, () -> x.setMaster(2000));
@@ -99,6 +101,8 @@ public final class MixTest {
         x.render(1);
         Check.same("below the limit", x.mix(0, true), 32764);
         Check.same("below the limit is not clipped", x.meter(3), 8);
+        x.clearMeters();
+        Check.same("no clipped samples any more", x.meter(3), 0);
     }
 
     private static void panorama() {

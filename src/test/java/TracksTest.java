@@ -13,6 +13,8 @@ public final class TracksTest {
         duckKeys();
         duckGain();
         duckCurveIsKeptUpToDate();
+        duckCurveForgetsNothing();
+        duckAtEdgesOfWindows();
         trackValue();
         audible();
         Check.end();
@@ -193,6 +195,81 @@ public final class TracksTest {
         Check.same("the mix of it", x.mix(1000, false), 500);
     }
 
+    // The same calls on two mixers, of which one is asked for its duck gains all the time.
+    private static void duckCurveForgetsNothing() {
+        ClipMixer asked = new ClipMixer();
+        for (int calls = 1; calls <= 18; calls++) {
+            ClipMixer fresh = new ClipMixer();
+            for (int k = 1; k <= calls; k++) {
+                callNumber(k, fresh);
+            }
+            callNumber(calls, asked);
+            for (int n = 0; n < 4000; n += 13) {
+                Check.same("duckGain at " + n + " after call " + calls, asked.duckGain(0, n), fresh.duckGain(0, n));
+            }
+        }
+    }
+
+    private static void callNumber(int number, ClipMixer x) {
+        switch (number) {
+            case 1 -> x.setSource(1, ClipMixer.NOISE, 4000, 3, 4000);
+            case 2 -> x.duck(0, 1, 2000, 300, 20, 10);
+            case 3 -> x.addClip(1, 1, 0, 0, 2000, 1000);
+            case 4 -> x.setFades(0, 1500, 0, ClipMixer.SQUARE_CURVE);
+            case 5 -> x.moveClip(0, 100);
+            case 6 -> x.trimClip(0, 0, 300);
+            case 7 -> x.splitClip(0, 900);
+            case 8 -> x.setFades(1, 400, 100, ClipMixer.LINEAR);
+            case 9 -> x.moveClip(1, 2000);
+            case 10 -> x.deleteTime(1, 200, 700);
+            case 11 -> x.setTrack(1, 700, 0, false, false);
+            case 12 -> x.setPoint(1, 1500, 1600, true);
+            case 13 -> x.setPoint(1, 100, 600, false);
+            case 14 -> x.removePoint(1, 1500);
+            case 15 -> x.duck(0, 1, 1500, 0, 100, 10);
+            case 16 -> x.endDuck(0);
+            case 17 -> x.duck(0, 1, 1000, 0, 50, 20);
+            default -> x.removeClip(0);
+        }
+    }
+
+    private static int gainAfterWindow(int start, int length, int position) {
+        ClipMixer x = new ClipMixer();
+        x.setSource(1, ClipMixer.CONSTANT, 4000, 1, 4000);
+        x.addClip(1, 1, start, 0, length, 1000);
+        x.duck(2, 1, 4000, 0, 400, 400);
+        return x.duckGain(2, position);
+    }
+
+    private static void duckAtEdgesOfWindows() {
+        Check.same("the last position of a window", gainAfterWindow(239, 1, 260), 800);
+        Check.same("the first position of the next one", gainAfterWindow(240, 1, 260), 1000);
+        Check.same("the first position of a window", gainAfterWindow(240, 1, 300), 800);
+        Check.same("the last position, one window later", gainAfterWindow(239, 1, 300), 800);
+        Check.same("two windows", gainAfterWindow(239, 2, 300), 400);
+        Check.same("the first window", gainAfterWindow(0, 1, 60), 800);
+        Check.same("the last window", gainAfterWindow(3959, 1, 3999), 610);
+        Check.same("the last window does not matter", gainAfterWindow(3960, 40, 3999), 1000);
+        ClipMixer x = new ClipMixer();
+        x.setSource(1, ClipMixer.CONSTANT, 1000, 1, 4000);
+        for (int k = 0; k < 11; k++) {
+            x.addClip(1, 1, 170 + 10 * k, 0, 10, 1000);
+        }
+        x.addClip(1, 1, 280, 0, 10, 1001);
+        x.duck(2, 1, 1001, 0, 400, 400);
+        Check.same("a loud position behind the window", x.duckGain(2, 300), 1000);
+        Check.same("a loud position in the window", x.duckGain(2, 340), 800);
+        x.moveClip(11, 160);
+        Check.same("a loud position before the window", x.duckGain(2, 180), 1000);
+        Check.same("a loud position in the window again", x.duckGain(2, 220), 800);
+        Check.same("all 12 clips looked at", x.duckGain(2, 3999), 1000);
+        for (int k = 0; k < 12; k++) {
+            x.removeClip(0);
+        }
+        x.addClip(1, 1, 0, 0, 4000, 1001);
+        Check.same("the key is heard by itself", x.duckGain(2, 60), 800);
+    }
+
     private static void trackValue() {
         ClipMixer x = withTone();
         x.setSource(1, ClipMixer.SQUARE, 3333, 2, 4000);
@@ -228,6 +305,10 @@ public final class TracksTest {
         audibleIs("the solo one is muted", x, false, false, false, false);
         x.setTrack(3, 1000, 0, false, true);
         audibleIs("two are solo, one of them muted", x, false, false, false, true);
+        for (int k = 0; k < 6; k++) {
+            x.seek(k);
+            audibleIs("after other calls", x, false, false, false, true);
+        }
         Check.fails("no such track", x, BOUNDS, () -> x.isAudible(4) ? 1 : 0);
         Check.fails("track -1", x, BOUNDS, () -> x.isAudible(-1) ? 1 : 0);
     }
