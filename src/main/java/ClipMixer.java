@@ -595,7 +595,7 @@ public final class ClipMixer {
         }
 
         boolean covers(int position) {
-            return position >= start && position < end();
+            return position >= start && position < start + size;
         }
 
         boolean isBefore(Clip other) {
