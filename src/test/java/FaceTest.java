@@ -21,8 +21,13 @@ public final class FaceTest {
             "int length()", "int undo()", "long digest()");
     private static final Set<String> CONSTANTS = Set.of("NONE=-1", "CONSTANT=0", "SQUARE=1", "SAW=2", "NOISE=3",
             "LINEAR=0", "SQUARE_CURVE=1");
-    private static final String[] RULED_OUT = {"import ", "package ", "->", "::", "synchronized", "assert ",
-        "finally", "static {", "Exact(", "catch", "@", "System.", "Thread", "Object"};
+    private static final String[] RULED_OUT = {"package ", "::", "synchronized", "assert ", "finally", "static {",
+        "Exact(", "Thread", "Random", "System.in", "System.out", "System.err", "System.nano", "System.current",
+        "java.io", "java.nio", "java.net", "java.time", "ArrayIndexOutOfBounds", "NullPointer", "ClassCast",
+        "NegativeArraySize", "ArrayStore", "Throwable", "Error"};
+    private static final int CLASSES = 12;
+    private static final int FIELDS = 20;
+    private static final int PARAMETERS = 7;
 
     public static void main(String[] args) throws Exception {
         face();
@@ -68,18 +73,30 @@ public final class FaceTest {
 
     private static void source() throws Exception {
         String text = Files.readString(Path.of("src/main/java/ClipMixer.java"));
+        String code = text.replaceAll("(?s)/\\*.*?\\*/", "").replaceAll("//[^\n]*", "");
         for (String word : RULED_OUT) {
-            Check.yes("the source does without '" + word + "'", !text.contains(word));
+            Check.yes("the source does without '" + word + "'", !code.contains(word));
         }
-        for (Class<?> c : ClipMixer.class.getDeclaredClasses()) {
-            Check.yes(c + " is static", Modifier.isStatic(c.getModifiers()));
-            for (Method m : c.getDeclaredMethods()) {
-                Check.yes(m + " bears no name of the face", METHODS.stream().noneMatch(
-                        s -> s.contains(" " + m.getName() + "(")));
-            }
+        Class<?>[] inside = ClipMixer.class.getDeclaredClasses();
+        Check.yes("there are at most some twelve classes", inside.length < CLASSES);
+        sizes(ClipMixer.class);
+        for (Class<?> c : inside) {
+            Check.yes(c + " is not for others", !Modifier.isPublic(c.getModifiers())
+                    && !Modifier.isProtected(c.getModifiers()));
+            sizes(c);
         }
-        for (Method m : ClipMixer.class.getDeclaredMethods()) {
-            Check.yes(m + " takes at most seven parameters", m.getParameterCount() <= 7);
+    }
+
+    private static void sizes(Class<?> c) {
+        int fields = 0;
+        for (Field f : c.getDeclaredFields()) {
+            fields += Modifier.isStatic(f.getModifiers()) ? 0 : 1;
+        }
+        Check.yes(c + " has at most some twenty fields", fields <= FIELDS);
+        for (Method m : c.getDeclaredMethods()) {
+            Check.yes(m + " takes at most seven parameters", m.getParameterCount() <= PARAMETERS);
+            Check.yes(m + " bears no name of the face if it is private", !Modifier.isPrivate(m.getModifiers())
+                    || METHODS.stream().noneMatch(s -> s.contains(" " + m.getName() + "(")));
         }
     }
 }

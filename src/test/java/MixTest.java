@@ -147,14 +147,14 @@ public final class MixTest {
     private static void render() {
         ClipMixer x = withDucking();
         Check.same("render", x.render(1000), 1000);
-        ClipMixer looked = withDucking();
         long k = 7;
         for (int n = 0; n < 1000; n++) {
+            ClipMixer looked = withDucking();
             k = 31 * k + looked.mix(n, false);
             k = 31 * k + looked.mix(n, true);
         }
         Check.same("the check sum of the mix", x.meter(4), k);
-        for (int piece : new int[] {1, 7, 40, 333, 999}) {
+        for (int piece : new int[] {2, 7, 40, 333, 999}) {
             renderInPieces(x, piece);
         }
         Check.fails("count 0", x, ARGUMENT, () -> x.render(0));

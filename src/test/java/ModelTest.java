@@ -44,11 +44,39 @@ public final class ModelTest {
 
     // Near positions make conflicts and crossfades, far ones the rest.
     private int position() {
+        if (below(3) == 0) {
+            return edge();
+        }
         return below(2) == 0 ? pick(0, 399) : pick(0, 3999);
     }
 
-    private int size() {
+    // The start or the end of a clip or the edge of a window, or the position before or behind it.
+    private int edge() {
+        int at = 40 * below(101);
+        if (y.clips() > 0 && below(4) != 0) {
+            int c = below(y.clips());
+            at = y.clip(c, 2) + below(2) * y.clip(c, 4);
+        }
+        return at + below(3) - 1;
+    }
+
+    private int size(int from) {
+        if (below(4) == 0) {
+            return Math.abs(edge() - from);
+        }
         return below(3) == 0 ? pick(1, 2000) : pick(1, 200);
+    }
+
+    private int front(int c) {
+        return isClip(c) && below(3) == 0 ? edge() - y.clip(c, 2) : below(40);
+    }
+
+    private int back(int c) {
+        return isClip(c) && below(3) == 0 ? y.clip(c, 2) + y.clip(c, 4) - edge() : below(40);
+    }
+
+    private boolean isClip(int c) {
+        return c >= 0 && c < y.clips();
     }
 
     private int number() {
@@ -67,7 +95,8 @@ public final class ModelTest {
         for (int call = 0; call < CALLS; call++) {
             isOdd = below(8) == 0;
             int method = call < 12 ? 2 * below(2) : below(METHODS);
-            step("run " + run + ", call " + call + ", method " + method, method, position(), size());
+            int n = position();
+            step("run " + run + ", call " + call + ", method " + method, method, n, size(n));
             if (call % 20 == 19) {
                 both("digest() in run " + run + ", call " + call, () -> x.digest(), () -> y.digest());
             }
@@ -102,9 +131,13 @@ public final class ModelTest {
             case 3 -> both(what, () -> x.setFades(c, l, n, b), () -> y.setFades(c, l, n, b));
             case 4 -> both(what, () -> x.setFades(c, o, o, b % 2), () -> y.setFades(c, o, o, b % 2));
             case 5 -> both(what, () -> x.moveClip(c, n), () -> y.moveClip(c, n));
-            case 6 -> both(what, () -> x.trimClip(c, o, l / 8), () -> y.trimClip(c, o, l / 8));
+            case 6 -> {
+                int front = isOdd ? o : front(c);
+                int back = isOdd ? l / 8 : back(c);
+                both(what, () -> x.trimClip(c, front, back), () -> y.trimClip(c, front, back));
+            }
             case 7 -> {
-                int at = isOdd || y.clips() <= c || c < 0 ? n : y.clip(c, 2) + l / 4;
+                int at = isOdd || !isClip(c) ? n : y.clip(c, 2) + l / 4;
                 both(what, () -> x.splitClip(c, at), () -> y.splitClip(c, at));
             }
             case 8 -> both(what, () -> x.removeClip(c), () -> y.removeClip(c));

@@ -204,7 +204,7 @@ public final class TracksTest {
                 callNumber(k, fresh);
             }
             callNumber(calls, asked);
-            for (int n = 0; n < 4000; n += 13) {
+            for (int n = 7; n < 4000; n += 167) {
                 Check.same("duckGain at " + n + " after call " + calls, asked.duckGain(0, n), fresh.duckGain(0, n));
             }
         }
