@@ -1,6 +1,6 @@
 import java.math.BigInteger;
 
-/** The boundaries that the document names for the mix, the playhead and the meters: promises 23 to 29, and "THE MIX". */
+/** The boundaries that the document names for the mix, the playhead and the meters: promises 23 to 29 and "THE MIX". */
 public final class MixEdgesTest {
     private static final int MIN = Integer.MIN_VALUE;
     private static final int MAX = Integer.MAX_VALUE;
